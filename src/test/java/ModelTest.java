@@ -11,6 +11,9 @@ public final class ModelTest {
     "\\", "\u0000", "\\let\\b\\gdef "};
   private static final String[] PARAMETERS = {"", "", "#1", "#1", "#1#2", "#1.", "#1..", ".#1", "#1.#2", "#1ab", "x",
     " #1 ", "#1\\b", "#1#2,", "#1 ", "#2", "#1#2#3#4#5#6#7#8", "12345678"};
+  private static final String[] REPLACEMENTS = {"{}", "{x}", "{.y}", "{x{y}z}", "{\\fi}", "{\\iftrue}", "{\\iffalse.}",
+    "{\\b}", "{\\else}", "{\\c..}", "{\\def\\b}", "{\\let\\c}", "{\\catcode!}", "{\\xa}", "{\\bg}", "{\\endgroup}"};
+  private static final String[] NAMES_IN_USE = {"\\a", "\\b", "\\c", "\\1"};
   private static final String[] NAMES = {"\\a", "\\b", "\\c", "\\1", "\\!", "\\aa", "\\fi", "\\x"};
 
   private final Random random;
@@ -37,6 +40,11 @@ public final class ModelTest {
     int most = seed % 3 == 0 ? 256 : 20 + random.nextInt(236);
     if (seed % 5 == 0) {
       many();
+    } else if (seed % 4 != 0) {
+      // With the usual names defined, a text goes further before it stops.
+      for (String name : NAMES_IN_USE) {
+        text.append("\\def").append(name).append(pick(PARAMETERS)).append(pick(REPLACEMENTS));
+      }
     }
     while (text.length() < most) {
       piece(0);
