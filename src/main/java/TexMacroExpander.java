@@ -56,6 +56,8 @@ public final class TexMacroExpander {
   // Each argument may for a while hold two outer braces that do not count in the end.
   private static final int ARGUMENTS_ROOM = ARGUMENTS_LIMIT + 2 * MOST_PARAMETERS;
 
+  private static final int ARGUMENT_BOUNDS_ROOM = MOST_PARAMETERS + 1;
+
   // 'expandafter' takes two tokens for each one it holds, of at most 256 pending and 256 raw ones.
   private static final int HELD_ROOM = 256;
 
@@ -101,8 +103,8 @@ public final class TexMacroExpander {
   // The arguments of the macro being expanded stand one behind the other; argument k has the cells
   // argumentStarts[k] .. argumentEnds[k] - 1.
   private final int[] arguments = new int[ARGUMENTS_ROOM];
-  private final int[] argumentStarts = new int[MOST_PARAMETERS + 1];
-  private final int[] argumentEnds = new int[MOST_PARAMETERS + 1];
+  private final int[] argumentStarts = new int[ARGUMENT_BOUNDS_ROOM];
+  private final int[] argumentEnds = new int[ARGUMENT_BOUNDS_ROOM];
   private int argumentsUsed = 0;
   private int argumentsLimit = 0;
 

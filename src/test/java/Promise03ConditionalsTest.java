@@ -67,6 +67,8 @@ public final class Promise03ConditionalsTest {
     same("{}", false);
     same("\\zz\\yy", true);
     same("\\zz\\fi", false);
+    same("\\zz\\def", false);
+    same("\\def\\zz", false);
     same("\\zz a", false);
     same("\\def\\def", true);
     same("\\def\\gdef", false);
@@ -92,6 +94,12 @@ public final class Promise03ConditionalsTest {
     differs("\\def\\a.x{}\\def\\b.{x}", "\\a\\b", false);
     differs("\\def\\a#1#2{#1}\\def\\b#1#2{#2}", "\\a\\b", false);
     differs("\\def\\a{\\c}\\def\\b{\\d}", "\\a\\b", false);
+    differs("\\def\\a{}", "\\a\\zz", false);
+    differs("\\def\\a{}", "\\a\\def", false);
+    differs("\\def\\a#1{}", "\\a\\gdef", false);
+    // What was read or assigned before leaves no trace in a meaning.
+    differs("\\def\\b{x}\\def\\c{yz}\\def\\a{x}", "\\a\\b", true);
+    differs("\\def\\b.{x}\\def\\c,,{x}\\def\\a.{x}", "\\a\\b", true);
     differs("\\def\\a{xy}\\let\\b\\a\\def\\b{x}\\def\\a{x}", "\\a\\b", true);
     differs("\\def\\a#1xyz{uvw}\\def\\a{x}\\def\\b{x}", "\\a\\b", true);
     differs("\\def\\a#1xyz{uvw}\\let\\a\\zz", "\\a\\yy", true);
@@ -128,7 +136,8 @@ public final class Promise03ConditionalsTest {
   }
 
   private static void extraOnes() {
-    Check.gives("a\\fi", EXTRA, "a");
+    TexMacroExpander none = Check.gives("a\\fi", EXTRA, "a");
+    Check.same("conditionals", none.condDepth(), 0);
     Check.gives("a\\else b\\fi", EXTRA, "a");
     Check.gives("\\iftrue\\fi\\fi", EXTRA, "");
     TexMacroExpander x = Check.gives("\\iffalse\\else a\\else b\\fi", EXTRA, "a");

@@ -181,5 +181,8 @@ public final class Promise03ExpansionTest {
     open = "\\def\\b#1.{}\\def\\a#1{\\b#1#1#1#1}\\a{" + "x".repeat(60) + "}";
     Check.gives(open + "y".repeat(16), RUNAWAY, "");
     Check.gives(open + "y".repeat(17), PENDING_FULL, "");
+    open = "\\def\\b#1.#2.{}\\def\\a#1{\\b#1#1#1#1.}\\a{" + "x".repeat(60) + "}";
+    Check.gives(open + "{" + "y".repeat(16), RUNAWAY, "");
+    Check.gives(open + "{" + "y".repeat(17), PENDING_FULL, "");
   }
 }

@@ -75,6 +75,9 @@ public final class Promise03GroupsTest {
     Check.same("the other", x.catcode('?'), 6);
     x = Check.done("\\catcode!5{", "{");
     Check.same("at depth 0", x.catcode('!'), 5);
+    x = Check.done("{\\catcode\\\u00005}{\\catcode\\\u007f5}", "{}{}");
+    Check.same("char 0 is back", x.catcode(0), 7);
+    Check.same("char 127 is back", x.catcode(127), 7);
     // The items 'meaning of name 0' and 'catcode of char 0' are two.
     x = Check.done("{\\let\\def a\\catcode\\\u00005\\gcatcode\\\u00004}\\def\\x{y}\\x", "{}y");
     Check.same("char 0", x.catcode(0), 4);

@@ -50,6 +50,13 @@ public final class Promise03RunTest {
     TexMacroExpander x = Check.gives("\\A\\a", TexMacroExpander.E_UNDEFINED, "");
     Check.same("names are added when read", x.nameCount(), 15);
     Check.same("the name added", Check.name(x, 14), "A");
+    // A full input that ends in a name, in a name's spaces, or in the escape.
+    Check.gives("x".repeat(252) + "\\abc", TexMacroExpander.E_UNDEFINED, "x".repeat(252));
+    Check.gives("x".repeat(246) + "\\abcdefgh ", TexMacroExpander.E_UNDEFINED, "x".repeat(246));
+    Check.gives("x".repeat(255) + "\\", TexMacroExpander.E_RUNAWAY, "x".repeat(255));
+    // What was never fed is no part of a name, even if char 0 is a letter.
+    x = Check.gives("\\catcode\\\u00005\\ab", TexMacroExpander.E_UNDEFINED, "");
+    Check.same("the name added", Check.name(x, 15), "ab");
     Check.done("\\catcode`5\\def\\a`b{x}\\a`b  c", "xc");
     Check.done("\\catcode!4\\def\\a{x}\\a ! !b", "xb");
     Check.done("\\catcode!0!def!a{x}\\a!a", "xx");
