@@ -168,6 +168,11 @@ public final class Edges01ConstructionTest {
     equal("\\def\\a{" + full + "4}\\def\\b{" + full + "}", "\\a\\b", false);
     equal("\\def\\a#1{}\\def\\b#1#2{}", "\\a\\b", false);
     equal("\\def\\a#1.{}\\def\\b.#1{}", "\\a\\b", false);
+    // What a name meant before, or what was defined in between, plays no part.
+    equal("\\def\\a{x}\\def\\c 12#1{yz}\\def\\b{x}", "\\a\\b", true);
+    equal("\\def\\a 12#1{yz}\\def\\a{x}\\def\\b{x}", "\\a\\b", true);
+    equal("\\def\\a 12#1{yz}\\let\\a!", "\\a!", true);
+    equal("\\def\\a 12#1{yz}\\let\\a\\c", "\\a\\d", true);
     // Equal is what the tokens are, not what they mean.
     equal("\\let\\c\\fi\\def\\a{\\c}\\def\\b{\\fi}", "\\a\\b", false);
   }

@@ -241,6 +241,21 @@ public final class Edges03ExpansionTest {
     Check.gives(pending240("#1.#2.", "") + ".{" + "y".repeat(17) + "}.z", PENDING_FULL, "");
     Check.done(pending240("#1.#2.", "") + ".{" + "y".repeat(13) + "}w.z", "z");
     Check.gives(pending240("#1.#2.", "") + ".{" + "y".repeat(14) + "}w.z", PENDING_FULL, "");
+    // The braces that go do not count, however many arguments lose them.
+    String two = "\\def\\b#1.#2.{}\\def\\a#1{\\b{#1#1#1#1}.}\\a{" + "x".repeat(60) + "}";
+    Check.done(two + "{" + "y".repeat(16) + "}.z", "z");
+    Check.gives(two + "{" + "y".repeat(17) + "}.z", PENDING_FULL, "");
+    Check.done(two + "y".repeat(16) + ".z", "z");
+    Check.gives(two + "y".repeat(17) + ".z", PENDING_FULL, "");
+    String four = "\\def\\b#1.#2.#3.#4.{}\\def\\a#1{\\b{#1#1#1#1}.}\\a{" + "x".repeat(60) + "}{}.{yyyy}.";
+    Check.done(four + "{" + "y".repeat(12) + "}.z", "z");
+    Check.gives(four + "{" + "y".repeat(13) + "}.z", PENDING_FULL, "");
+    Check.done(four + "y".repeat(12) + ".z", "z");
+    Check.gives(four + "y".repeat(13) + ".z", PENDING_FULL, "");
+    // An empty argument adds nothing and takes nothing off.
+    String first = "\\def\\b#1.#2.{}\\def\\a#1{\\b.#1#1#1#1}\\a{" + "x".repeat(60) + "}";
+    Check.done(first + "y".repeat(16) + ".z", "z");
+    Check.gives(first + "y".repeat(17) + ".z", PENDING_FULL, "");
     Check.done(pending240("#1#2#3#4#5#6#7.", "") + "y".repeat(16) + ".z", "z");
     Check.gives(pending240("#1#2#3#4#5#6#7.", "") + "y".repeat(17) + ".z", PENDING_FULL, "");
     Check.done(pending240("#1#2#3#4#5#6#7#8", "") + "z", "x".repeat(232) + "z");

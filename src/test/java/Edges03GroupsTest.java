@@ -199,8 +199,14 @@ public final class Edges03GroupsTest {
     Check.done("\\let\\a0{\\let\\a1\\glet\\a2\\let\\a3\\a}\\a", "{3}2");
     Check.done("\\let\\a0{\\glet\\a1\\glet\\a2\\a}\\a", "{2}2");
     Check.done("\\let\\a0\\glet\\a1{\\a}\\a", "{1}1");
+    // No other item is reached, be it saved before or after this one.
+    Check.done("\\let\\a0\\let\\b0\\let\\c0{\\let\\a1\\let\\b1\\let\\c1\\glet\\b2}\\a\\b\\c", "{}020");
+    TexMacroExpander x = Check.done("{\\catcode!1\\catcode?1\\catcode/1\\gcatcode?3}", "{}");
+    Check.same("catcode of !", x.catcode('!'), 6);
+    Check.same("catcode of ?", x.catcode('?'), 3);
+    Check.same("catcode of /", x.catcode('/'), 6);
     // A name and a char are two items, also where their numbers meet.
-    TexMacroExpander x = Check.done("{\\catcode\\\u00001\\let\\def a\\glet\\def b}", "{}");
+    x = Check.done("{\\catcode\\\u00001\\let\\def a\\glet\\def b}", "{}");
     Check.same("catcode of char 0", x.catcode(0), 7);
     Check.same("meaning of name 0", x.meaningValue(0), 5 * 128 + 'b');
   }

@@ -13,6 +13,8 @@ public final class ModelTest {
     " #1 ", "#1\\b", "#1#2,", "#1 ", "#2", "#1#2#3#4#5#6#7#8", "12345678"};
   private static final String[] REPLACEMENTS = {"{}", "{x}", "{.y}", "{x{y}z}", "{\\fi}", "{\\iftrue}", "{\\iffalse.}",
     "{\\b}", "{\\else}", "{\\c..}", "{\\def\\b}", "{\\let\\c}", "{\\catcode!}", "{\\xa}", "{\\bg}", "{\\endgroup}"};
+  private static final String[] LONG_TEXT = {"1", "2", ".", "a", "\\b", "\\c "};
+  private static final String ITEMS = "!\"$%&'()*+,-./:;<=>?@[]^_`|~0123456789";
   private static final String[] NAMES_IN_USE = {"\\a", "\\b", "\\c", "\\1"};
   private static final String[] NAMES = {"\\a", "\\b", "\\c", "\\1", "\\!", "\\aa", "\\fi", "\\x"};
 
@@ -99,7 +101,7 @@ public final class ModelTest {
 
   /** Starts the text with many of something, to come near the bounds. */
   private void many() {
-    switch (random.nextInt(7)) {
+    switch (random.nextInt(12)) {
       case 0 -> {
         text.append("\\def\\a#1{").append("#1".repeat(1 + random.nextInt(8))).append("}");
         text.append("\\a{").append("x".repeat(20 + random.nextInt(60))).append("}");
@@ -114,13 +116,18 @@ public final class ModelTest {
       }
       case 2 -> text.append("{".repeat(5 + random.nextInt(5)));
       case 3 -> text.append("\\iftrue".repeat(6 + random.nextInt(4)));
-      case 4 -> {
+      case 4 -> longDefinition();
+      case 5 -> manyLevels();
+      case 6 -> manyArguments();
+      case 7 -> text.append("\\def\\a#1{#1#1#1#1}\\a{").append("x".repeat(61 + random.nextInt(4))).append("}");
+      case 8 -> text.append("\\let\\").append("abcdefghij", 0, 7 + random.nextInt(3)).append(pick(PIECES));
+      case 9 -> {
         text.append("\\let\\x\\catcode{");
         for (int n = 20 + random.nextInt(15); n > 0; n--) {
           text.append("\\x").append((char) (n < 26 ? ' ' + n : ':' + n - 26)).append(random.nextInt(2) + 5);
         }
       }
-      case 5 -> {
+      case 10 -> {
         text.append("\\iffalse");
         for (int n = 14 + random.nextInt(6); n > 0; n--) {
           text.append('\\').append((char) ('A' + n));
@@ -129,6 +136,54 @@ public final class ModelTest {
       }
       default -> text.append("\\def\\a{\\a\\b}\\def\\b#1{#1}\\a");
     }
+  }
+
+  /** Texts of about 8 and about 24 tokens. */
+  private void longDefinition() {
+    text.append("\\def\\a");
+    int markers = 0;
+    for (int n = 7 + random.nextInt(3); n > 0; n--) {
+      if (random.nextInt(4) == 0) {
+        markers++;
+        text.append('#').append(random.nextInt(20) == 0 ? markers + 1 : markers);
+      } else {
+        text.append(pick(LONG_TEXT));
+      }
+    }
+    text.append('{');
+    for (int n = 23 + random.nextInt(3); n > 0; n--) {
+      text.append(random.nextInt(8) == 0 ? "##" : pick(LONG_TEXT));
+    }
+    text.append('}');
+  }
+
+  /** About 32 saves over some levels. */
+  private void manyLevels() {
+    text.append("\\let\\x\\catcode ");
+    int levels = 1 + random.nextInt(4);
+    int item = random.nextInt(ITEMS.length());
+    for (int level = 0; level < levels; level++) {
+      text.append('{');
+      for (int n = 32 / levels - 1 + random.nextInt(3); n > 0; n--) {
+        item += random.nextInt(8) == 0 ? 2 : 1;
+        text.append("\\x").append(ITEMS.charAt(item % ITEMS.length())).append(6);
+      }
+    }
+  }
+
+  /** Some delimited arguments, with and without braces, of about 256 tokens in all. */
+  private void manyArguments() {
+    text.append("\\def\\b").append("#1.#2.#3.#4.", 0, 3 * (2 + random.nextInt(3))).append("{}\\def\\a#1{\\b");
+    text.append(random.nextBoolean() ? "#1#1#1#1" : "{#1#1#1#1}").append(random.nextBoolean() ? "." : "");
+    text.append("}\\a{").append("x".repeat(60)).append('}');
+    int left = 14 + random.nextInt(5);
+    while (left > 0) {
+      int length = Math.min(left, 1 + random.nextInt(16));
+      String part = "y".repeat(length);
+      text.append(random.nextBoolean() ? part : "{" + part + "}").append(random.nextInt(4) == 0 ? "" : ".");
+      left -= length;
+    }
+    text.append("....");
   }
 
   /** Answers the status that both ended with. */
