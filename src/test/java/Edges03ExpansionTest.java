@@ -16,6 +16,7 @@ public final class Edges03ExpansionTest {
     emptyArguments();
     arguments256();
     argumentSums();
+    fullArgumentsAndOtherErrors();
     pending256();
     markersAreReplaced();
     Check.end();
@@ -259,6 +260,23 @@ public final class Edges03ExpansionTest {
     Check.done(pending240("#1#2#3#4#5#6#7.", "") + "y".repeat(16) + ".z", "z");
     Check.gives(pending240("#1#2#3#4#5#6#7.", "") + "y".repeat(17) + ".z", PENDING_FULL, "");
     Check.done(pending240("#1#2#3#4#5#6#7#8", "") + "z", "x".repeat(232) + "z");
+  }
+
+  /** With 256 tokens in the arguments, what is no 257th token gives its own error. */
+  private static void fullArgumentsAndOtherErrors() {
+    String[] calls = {pending240("#1.", "") + "y".repeat(16), pending240("#1.#2", "") + "y".repeat(16) + ".",
+      pending240("#1.#2.", "") + "y".repeat(16) + ".", pending240("#1.#2", "") + ".{" + "y".repeat(16)};
+    for (String call : calls) {
+      boolean inBraces = call.contains("{y");
+      Check.gives(call, RUNAWAY, "");
+      Check.gives(call + "\\", RUNAWAY, "");
+      Check.gives(call + "\\abcdefghi", TexMacroExpander.E_NAME_LONG, "");
+      Check.gives(call + "}", inBraces ? TexMacroExpander.S_DONE : NO_MATCH, "");
+      Check.gives(call + "w", PENDING_FULL, "");
+    }
+    Check.gives(pending240("#1.#2", "") + "y".repeat(16) + ".   ", RUNAWAY, "");
+    Check.gives(pending240("#1.#2", "") + "y".repeat(16) + ".{", RUNAWAY, "");
+    Check.gives(pending240("#1..#2", "") + "y".repeat(16) + ".", RUNAWAY, "");
   }
 
   /** 'PENDING above 256 tokens gives E_PENDING_FULL'. */
